@@ -718,7 +718,7 @@ public final class CompassTowers {
         }
 
         boolean isOnLine(int p, int line) {
-            layLineSum(line, p);
+            layProductSum(line, p);
             tower.add(total, row(line, 2), total);
             return tower.isZero(total);
         }
@@ -729,7 +729,7 @@ public final class CompassTowers {
         }
 
         boolean areSquare(int l, int m) {
-            layLineSum(l, m);
+            layProductSum(l, m);
             return tower.isZero(total);
         }
 
@@ -833,7 +833,7 @@ public final class CompassTowers {
 
         /** Gives a LINE whose a and b are known the c with which it goes through POINT p. */
         private void leadThrough(int line, int p) {
-            layLineSum(line, p);
+            layProductSum(line, p);
             tower.negate(total, row(line, 2));
             tellPlainly(line);
         }
@@ -848,7 +848,7 @@ public final class CompassTowers {
         }
 
         /** The first NUMBERS of two THINGS multiplied, and their second ones, together. */
-        private void layLineSum(int s, int t) {
+        private void layProductSum(int s, int t) {
             tower.multiply(row(s, 0), row(t, 0), total);
             tower.multiply(row(s, 1), row(t, 1), term);
             tower.add(total, term, total);
@@ -925,7 +925,7 @@ public final class CompassTowers {
 
         /** h h + k k - s of a CIRCLE. */
         private void layConstant(int circle, int[] out) {
-            layLineSum(circle, circle);
+            layProductSum(circle, circle);
             tower.subtract(total, row(circle, 2), out);
         }
 
