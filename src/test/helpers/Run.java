@@ -48,6 +48,17 @@ final class Run implements Names {
         due(want, it.step(kind, all[0], all[1], all[2]), "step " + kind + " ", all);
     }
 
+    /** A STEP that is not refused: its THING. */
+    int made(int kind, int... told) {
+        int thing = counted(it.count(0));
+        step(thing, kind, told);
+        return thing;
+    }
+
+    int callsLeft() {
+        return MOST_CALLS - calls;
+    }
+
     void back(int want) {
         due(want, it.back(), "back");
     }

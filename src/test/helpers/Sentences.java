@@ -25,7 +25,8 @@ final class Sentences {
         tested++;
     }
 
-    private String section(int promise) {
+    /** What stands under a promise's heading; 0: ahead of all promises. */
+    String section(int promise) {
         int from = promise == 0 ? 0 : document.indexOf("## Promise " + promise + ":");
         int to = document.indexOf(promise == 18 ? "## Not promised" : "## Promise " + (promise + 1) + ":");
         return from < 0 || to < from ? "" : document.substring(from, to);

@@ -27,11 +27,27 @@ public final class FaceTest {
     }
 
     public static void main(String[] args) throws Exception {
+        document();
         members();
+        inside();
         words();
+        lengths();
         room();
         System.out.println(wrong == 0 ? "the face is as due" : wrong + " faults");
         if (wrong != 0) System.exit(1);
+    }
+
+    /** That the lists above are the document's; without it they are tested all the same. */
+    private static void document() throws IOException {
+        Path path = Path.of("../shared/DOC.md");
+        if (!Files.exists(path)) return;
+        TreeSet<String> methods = new TreeSet<>();
+        Matcher m = Pattern.compile("public int (\\w+)\\(([^)]*)\\);").matcher(Files.readString(path));
+        while (m.find()) methods.add(m.group(1) + "(" + m.group(2).replaceAll("int \\w+", "int").replace(" ", "") + ")");
+        check(methods.equals(new TreeSet<>(Arrays.asList(METHODS))), "the methods that stand in the document: " + methods);
+        StringBuilder constants = new StringBuilder("public static final int");
+        for (int i = 0; i < CONSTANTS.length; i++) constants.append(i == 0 ? " " : ", ").append(CONSTANTS[i]).append(" = ").append(-1 - i);
+        check(Files.readString(path).contains(constants + ";"), "the constants that stand in the document");
     }
 
     private static void members() throws IllegalAccessException {
@@ -59,8 +75,43 @@ public final class FaceTest {
             check(at >= 0 && f.getType() == int.class && f.getInt(null) == -1 - at, f.getName() + " as told");
         }
         check(constants.equals(new TreeSet<>(Arrays.asList(CONSTANTS))), "the constants of the document: " + constants);
-        for (Class<?> inside : face.getDeclaredClasses()) {
+    }
+
+    /** The limits of LANGUAGE.md on the classes, their fields and their methods. */
+    private static void inside() {
+        Class<?>[] classes = CompassTowers.class.getDeclaredClasses();
+        check(classes.length < 12, "at most twelve classes");
+        limits(CompassTowers.class);
+        for (Class<?> inside : classes) {
             check(Modifier.isStatic(inside.getModifiers()), inside.getName() + " is static");
+            check(!Modifier.isPublic(inside.getModifiers()) && !Modifier.isProtected(inside.getModifiers()), inside.getName() + " is hidden");
+            limits(inside);
+            for (Method m : inside.getDeclaredMethods()) {
+                for (String name : METHODS) check(!name.startsWith(m.getName() + "("), inside.getName() + " has no " + m.getName());
+            }
+        }
+    }
+
+    private static void limits(Class<?> one) {
+        int fields = 0;
+        for (Field f : one.getDeclaredFields()) {
+            boolean constant = Modifier.isStatic(f.getModifiers());
+            check(!constant || Modifier.isFinal(f.getModifiers()), f + " is final");
+            check(!constant || f.getType() == int.class || f.getType() == int[].class, f + " is a constant");
+            if (!constant) fields++;
+        }
+        check(fields <= 20, one.getName() + " has " + fields + " fields");
+        for (Method m : one.getDeclaredMethods()) check(m.getParameterCount() <= 7, m + " takes at most seven");
+    }
+
+    private static void lengths() throws IOException {
+        String[] lines = Files.readString(Path.of("src/main/java/CompassTowers.java")).split("\n");
+        for (int from = 0; from < lines.length; from++) {
+            if (!lines[from].matches("( {4}| {8})\\w[^;]*\\) \\{")) continue;
+            String end = lines[from].replaceAll("\\w.*", "}");
+            int to = from;
+            while (to + 1 < lines.length && !lines[to].equals(end)) to++;
+            check(to - from < 60, lines[from].trim() + " has " + (to - from + 1) + " lines");
         }
     }
 

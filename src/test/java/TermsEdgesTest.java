@@ -15,7 +15,7 @@ public final class TermsEdgesTest implements Names {
         document.holds(0, "P is odd, 3 to 32749; 3 at first.", TermsEdgesTest::primeRange);
         document.holds(0, "RESIDUES are 0 .. P - 1, reckoned modulo P.", TermsEdgesTest::residuesWrap);
         document.holds(0, "RESIDUES are 0 .. P - 1, reckoned modulo P.", TermsEdgesTest::greatestCoordinates);
-        document.holds(0, "THE TOWER has a HEIGHT 0 .. 3, 0 at first", TermsEdgesTest::heights);
+        document.holds(0, "THE TOWER has a HEIGHT 0 .. 3, 0 at first, and a BASE D(k) for each k below it", TermsEdgesTest::heights);
         document.holds(0, "a BASE D(k) for each k below it: a NUMBER of k that is no SQUARE at k.", TermsEdgesTest::basesAreNoSquares);
         document.holds(0, "one of k + 1 is a + b r, a and b being NUMBERS of k, and r r being D(k);", TermsEdgesTest::squaresOfNewRoots);
         document.holds(0, "One of k is one of k + 1, too, b being 0; THE LEVEL of a NUMBER is the least k of which it is one.",
