@@ -556,6 +556,8 @@ public final class DocumentTest implements Names {
             for (int to : primes) {
                 Run anew = Run.over(from);
                 make(anew);
+                // by way of all others, as what was made over these must leave no trace
+                for (int p : primes) anew.prime(EACH_KIND.length, p);
                 anew.prime(EACH_KIND.length, to);
                 Run direct = Run.over(to);
                 make(direct);
